@@ -54,13 +54,7 @@ public final class BarSteps {
 
     public int cell(int kind, int k, int c, int heat) {
         boolean good = isKind(kind) && isK(k) && isC(c) && isHeat(heat);
-        if (!good) {
-            return BAD;
-        }
-        if (bar.cells >= MAX_CELLS) {
-            return FULL;
-        }
-        return bar.append(kind, k, c, heat);
+        return good ? bar.append(kind, k, c, heat) : BAD;
     }
 
     public int drop() {
@@ -301,14 +295,8 @@ public final class BarSteps {
     // ---- pulses
 
     public int pulse(int cell, int due, int heat) {
-        if (!bar.has(cell) || !between(due, 1, 20) || !between(heat, -99, 99)) {
-            return BAD;
-        }
-        if (bar.pulses.size >= MAX_PULSES) {
-            return FULL;
-        }
-        bar.pulses.append(cell, due, heat);
-        return bar.pulses.size;
+        boolean good = bar.has(cell) && between(due, 1, 20) && between(heat, -99, 99);
+        return good ? bar.pulses.append(cell, due, heat) : BAD;
     }
 
     public int pulseOf(int i, int what) {
@@ -842,13 +830,15 @@ public final class BarSteps {
             size = other.size;
         }
 
-        void append(int ofCell, int in, int by) {
-            if (size < MAX_PULSES) {
-                cell[size] = ofCell;
-                due[size] = in;
-                heat[size] = by;
-                size++;
+        int append(int ofCell, int in, int by) {
+            if (size >= MAX_PULSES) {
+                return FULL;
             }
+            cell[size] = ofCell;
+            due[size] = in;
+            heat[size] = by;
+            size++;
+            return size;
         }
 
         int removeOf(int ofCell) {
@@ -1128,7 +1118,7 @@ public final class BarSteps {
         /** Determinants of the cells ahead of i alone, and of those from i on alone. */
         private final long[] ahead = new long[MAX_CELLS + 1];
         private final long[] onward = new long[MAX_CELLS + 2];
-        /** What the supplies of cells ahead of i, and from i on, bring up to there. */
+        /** What the supplies of cells ahead of i, and from i on, bring up to there; 0 past the ends. */
         private final long[] fromLeft = new long[MAX_CELLS + 1];
         private final long[] fromRight = new long[MAX_CELLS + 1];
 
@@ -1137,8 +1127,7 @@ public final class BarSteps {
             sweepRight(bar, n);
             sweepLeft(bar, n);
             for (int i = 0; i < n; i++) {
-                long right = i + 1 < n ? bar.leads(i) * fromRight[i + 1] : 0;
-                above[i] = fromLeft[i + 1] * onward[i + 1] + ahead[i] * right;
+                above[i] = fromLeft[i + 1] * onward[i + 1] + ahead[i] * bar.leads(i) * fromRight[i + 1];
             }
             below = ahead[n];
         }
@@ -1147,7 +1136,7 @@ public final class BarSteps {
             ahead[0] = 1;
             fromLeft[0] = 0;
             for (int i = 0; i < n; i++) {
-                long lead = i > 0 ? bar.leads(i - 1) : 0;
+                long lead = bar.leads(i - 1);
                 long twoAhead = i > 0 ? ahead[i - 1] : 0;
                 ahead[i + 1] = bar.loss(i) * ahead[i] - lead * lead * twoAhead;
                 fromLeft[i + 1] = bar.supply(i) * ahead[i] + lead * fromLeft[i];
@@ -1159,7 +1148,7 @@ public final class BarSteps {
             onward[n + 1] = 0;
             fromRight[n] = 0;
             for (int i = n - 1; i >= 0; i--) {
-                long lead = i < n - 1 ? bar.leads(i) : 0;
+                long lead = bar.leads(i);
                 onward[i] = bar.loss(i) * onward[i + 1] - lead * lead * onward[i + 2];
                 fromRight[i] = bar.supply(i) * onward[i + 1] + lead * fromRight[i + 1];
             }

@@ -439,6 +439,40 @@ public final class PromisesTest {
         due(19, "the pulse came", x.count(1), 0);
         x.heat(0, 1);
         due(19, "at rest", x.step(40), 40);
+        // By a tenth: the line is 10^n, and just at the bound it is not above it
+        x = bar(3, 1, 1, 0);
+        x.rule(0, 10);
+        x.rule(1, 1);
+        due(19, "up to the bound", x.step(40), 12);
+        due(19, "the line at the bound", x.line(), 1000000000000L);
+        long bound = 1000000000000L;
+        dueParts(19, "T at the bound", t(reaching(bound), 0), bound, 1);
+        dueParts(19, "T at the bound", t(reaching(-bound), 0), -bound, 1);
+        due(19, "one more is spent", reaching(bound + 1).count(1), 1);
+        due(19, "one less is spent", reaching(-bound - 1).count(1), 1);
+    }
+
+    /**
+     * A bar of one cell, both ends held at 0: T becomes -17 T each step, and a pulse a step is a digit, so
+     * that T ends at just that number. If the last step is spent, its pulse is left.
+     */
+    private static BarSteps reaching(long target) {
+        int[] digits = new int[40];
+        int n = 0;
+        long rest = target;
+        for (; rest < 0 || rest > 999; n++) {
+            digits[n] = (int) Math.floorMod(rest, 17L);
+            rest = -(rest - digits[n]) / 17;
+        }
+        BarSteps x = bar(0, 9, 1, (int) rest);
+        x.rule(0, 1);
+        x.end(0, 0);
+        x.end(1, 0);
+        for (int i = n - 1; i >= 0; i--) {
+            x.pulse(0, 1, digits[i]);
+            x.step(1);
+        }
+        return x;
     }
 
     private static void thenCall() {
@@ -479,6 +513,16 @@ public final class PromisesTest {
         x.heat(0, 1);
         due(21, "at rest none is", x.spent(0), -1);
         due(21, "at rest none is", x.spent(1), -1);
+        // By a half: 2^39 is no more than the bound, 2^40 is
+        x = bar(3, 1, 2, 0);
+        x.rule(0, 1);
+        x.rule(1, 1);
+        due(21, "the last of 40", x.spent(0), 40);
+        due(21, "its LARGE", x.spent(1), -1);
+        due(20, "39 are not spent", x.then(39, 0, 1), 549755813888L);
+        due(20, "40 are", x.then(40, 0, 1), NO);
+        x.step(1);
+        due(21, "one sooner", x.spent(0), 39);
         // HOLDS times FINE is 1 and nothing is stable, so heats grow without a line
         x = bar(0, 1, 1, 0, 0, 9, 1, 0, 0, 9, 1, 1);
         x.rule(0, 1);
@@ -519,6 +563,14 @@ public final class PromisesTest {
         x.pulse(0, 16, 99);
         due(22, "not spent ahead of that", x.rises(40), 16);
         // Ahead: 3 of one, 2 of another; it is not the same cell that rises
+        x = bar(3, 1, 4, 0);
+        x.rule(0, 20);
+        x.rule(1, 1);
+        due(22, "by an 80th", x.rises(1), 1);
+        x.rule(1, 0);
+        x.heat(0, 1);
+        x.pulse(0, 4, 1);
+        due(22, "it falls by an 80th each, then rises", x.rises(40), 4);
         x = bar(0, 1, 1, 3, 0, 1, 1, 3);
         x.set(1, 3, 1);
         due(22, "by a source", x.rises(1), 1);
@@ -539,11 +591,14 @@ public final class PromisesTest {
         due(23, "behind six", x.calm(1), 6);
         due(23, "never: the steps are spent ahead of that", x.calm(0), -1);
         dueParts(23, "nothing is kept", t(x, 0), 64, 1);
-        // At 40 steps, and not later: a pulse makes both alike
         x = bar(0, 1, 1, 5, 0, 1, 1, 5);
-        x.end(0, 5);
         x.pulse(0, 20, 1);
         due(23, "calm already", x.calm(0), 0);
+        // 768 at the end of seven that hand on a half to either side: spread to 7 behind 40 steps
+        x = bar(0, 1, 1, 768, 0, 1, 1, 0, 0, 1, 1, 0, 0, 1, 1, 0, 0, 1, 1, 0, 0, 1, 1, 0, 0, 1, 1, 0);
+        x.rule(0, 2);
+        due(23, "behind 40", x.calm(7), 40);
+        due(23, "not within 40", x.calm(6), -1);
         // FINE 1: they swap heats each step and never meet
         x = bar(0, 1, 1, 1, 0, 1, 1, 0);
         x.rule(0, 1);
@@ -702,6 +757,17 @@ public final class PromisesTest {
         due(32, "without cells", x.buried(0, 1), 0);
         x.sheet(0, 0, 1);
         due(32, "tells more than there are", x.buried(0, 0), -2);
+        x = bar(0, 1, 1, 0);
+        row(x, 0, 0, 9);
+        due(32, "one cell, no steady heats", x.buried(0, 0), -3);
+        x.end(0, 0);
+        due(32, "the greatest source", x.buried(0, 0), 18);
+        due(32, "the greatest source", x.buried(0, 1), 1);
+        row(x, 0, 0, -9);
+        due(32, "the least source", x.buried(0, 0), 0);
+        due(32, "the least source", x.buried(0, 1), 1);
+        row(x, 0, 0, 10);
+        due(32, "a greater one", x.buried(0, 1), 0);
         // Leads 1 everywhere, ends at 0: T0 is (2 S0 + S1) / 3, T1 is (S0 + 2 S1) / 3
         x = bar(0, 1, 1, 0, 0, 1, 1, 0);
         x.sheet(1, 1, 0);
@@ -722,6 +788,9 @@ public final class PromisesTest {
         // By 0 or 1 at 0, by -3 or -2 at 1: as it is, it counts for each of the cells
         due(32, "as it is", x.buried(0, 0), 9);
         due(32, "by either", x.buried(0, 1), 4);
+        // S0 is 0, so 6 at 1 makes 2 and 4
+        row(x, 0, 0, 2, 4);
+        due(32, "at the second cell", x.buried(0, 0), 115);
         row(x, 0, 0, 99);
         due(32, "none", x.buried(0, 0), -1);
         due(32, "none", x.buried(0, 1), 0);
@@ -802,33 +871,27 @@ public final class PromisesTest {
         due(34, "no such cell", x.film(2, 2, 1), -2);
         due(34, "no such sheet", x.film(4, 0, 1), -2);
         due(34, "no such sheet", x.film(-1, 0, 1), -2);
-        // -999 at least, 999 at most: told by what is loaded or found
-        x = bar(0, 1, 1, 999, 0, 1, 1, 0);
-        for (int i = 0; i < 12; i++) {
-            x.pulse(i / 11, 1, i < 11 ? 99 : 0);
+        // 999 and 11 times 99 is told as 999: as of a cell that stays at 999
+        x = bar(0, 1, 1, 999, 0, 1, 1, 999);
+        for (int i = 0; i < 11; i++) {
+            x.pulse(0, 1, 99);
         }
         x.film(0, 0, 2);
-        x.sheet(1, 1, 2);
-        row(x, 1, 1, 999, 999);
         due(34, "what was more is 999: otherwise than T", x.tells(0, 0, 0), 1);
-        x.heat(0, 999);
         x.hush(0);
-        x.step(1);
-        x = new BarSteps();
-        x.cell(0, 1, 1, 0);
+        due(34, "what was more is 999", x.tells(0, 0, 0), -1);
+        // 12 times -99 is told as -999
+        x = bar(0, 1, 1, 0);
         for (int i = 0; i < 12; i++) {
             x.pulse(0, 1, -99);
         }
         x.film(0, 0, 2);
-        // -1188 told as -999, by which a cell at -999 would be so
-        due(34, "what was less is -999", x.tells(0, 0, 0), 1);
-        BarSteps y = new BarSteps();
-        y.cell(0, 1, 1, 0);
+        due(34, "what was less is -999: otherwise than T", x.tells(0, 0, 0), 1);
+        x.hush(0);
         for (int i = 0; i < 11; i++) {
-            y.pulse(0, 1, i < 10 ? -99 : -9);
+            x.pulse(0, 1, i < 10 ? -99 : -9);
         }
-        row(y, 0, 1, 0, -999);
-        due(34, "-999 is as told", y.tells(0, 0, 0), -1);
+        due(34, "what was less is -999", x.tells(0, 0, 0), -1);
         // A spent step
         x = bar(3, 1, 4, 0, 2, 1, 4, 0);
         x.rule(0, 20);
@@ -900,9 +963,10 @@ public final class PromisesTest {
             "cell 1 2 3", "cell 1 2 3 4 5", "cell 1 2 x 4", "cell 1;2", "left", "left 1000", "left -1000", "left 0001",
             "left - 1", "left -", "left --1", "left 1 -", "left +1", "left 1.", "heat 1 2", "drop\t", "drop" + (char) 0,
             "drop 1", "left 5right 5", "celldrop", "left 12 34", "drop; 1", "pulse 1 1 1 ;x", "fine" + (char) 225,
-            "left -1-", "left 1a"};
+            "left -1-", "left 1a", "xrop", "dropz", "drop;z", "leftz 1", "left 1z", "a", "`", "{", "drop/", "left /", "left :",
+            "left 1:"};
         int[] faults = {0, 3, 0, 5, 7, 5, 5, 0, 0, 0, 10, 13, 9, 6, 4, 5, 5, 5, 5, 5, 5, 7, 5, 6, -1, 4, 4, 5, 6, 0, 8,
-            6, 13, 4, 7, 6};
+            6, 13, 4, 7, 6, 0, 0, 5, 0, 6, 0, 0, 0, 4, 5, 5, 6};
         for (int i = 0; i < texts.length; i++) {
             BarSteps x = new BarSteps();
             int want = faults[i] < 0 ? 0 : -100 - faults[i];
@@ -918,6 +982,7 @@ public final class PromisesTest {
     private static void textClauses() {
         BarSteps x = new BarSteps();
         due(37, "all clauses", text(x, "cell 3 4 2 9;heat 0 8;source 0 -7;left 1;right 2;fine 3"), 6);
+        dueParts(37, "T", t(x, 0), 8, 1);
         due(37, "KIND", x.of(0, 0), 3);
         due(37, "K", x.of(0, 1), 4);
         due(37, "C", x.of(0, 2), 2);
@@ -927,6 +992,9 @@ public final class PromisesTest {
         due(37, "right", x.end(1, -1), 2);
         due(37, "FINE", x.rule(0, 4), 3);
         due(37, "a source that was -2, then -3", text(x, "source 0 -2;source 0 -3;source 0 1"), 3);
+        due(37, "T of a cell that comes", text(x, "cell 0 1 1 77"), 1);
+        dueParts(37, "T of a cell that comes", t(x, 1), 77, 1);
+        x.drop();
         due(37, "no blanks", text(x, "pulse0 1-2;drop"), 2);
         due(37, "dropped", x.count(0), 0);
         due(37, "refused ones aren't done", text(x, "drop;cell 6 1 1 1;heat 0 1;left 9;left -2;fine 21"), 1);
