@@ -54,6 +54,37 @@ public final class ModelTest {
         int fine = lot.nextBoolean() ? 1 << lot.nextInt(5) : 1 + lot.nextInt(20);
         real.rule(0, fine);
         model.rule(0, fine);
+        if (lot.nextInt(3) == 0) {
+            strain(cells);
+        }
+    }
+
+    /** The largest numbers that a bar can hold: heats told over a line that steps have used up. */
+    private void strain(int cells) {
+        for (int i = 0; i < cells; i++) {
+            int source = lot.nextInt(19) - 9;
+            real.set(i, 3, source);
+            model.set(i, 3, source);
+        }
+        real.step(40);
+        model.step(40);
+        for (int i = 0; i < cells; i++) {
+            int heat = lot.nextBoolean() ? 999 : 0;
+            if (lot.nextInt(3) > 0) {
+                real.heat(i, heat);
+                model.heat(i, heat);
+            }
+        }
+        int fine = lot.nextBoolean() ? 20 : 1;
+        real.rule(0, fine);
+        model.rule(0, fine);
+        for (int i = 0; i < 12; i++) {
+            int cell = lot.nextInt(Math.max(1, cells));
+            real.pulse(cell, 1, 99);
+            model.pulse(cell, 1, 99);
+        }
+        real.image();
+        model.image();
     }
 
     private int num(int least, int most) {
