@@ -1,77 +1,5 @@
 /** Each promise of the document by hand: ordinary inputs, the edges that it names, wrong inputs. */
-public final class PromisesTest {
-    private static final int LEAST = Integer.MIN_VALUE, GREATEST = Integer.MAX_VALUE;
-    private static final long NO = Long.MIN_VALUE;
-    private static int checked = 0;
-    private static int wrong = 0;
-
-    private static void due(int promise, String what, long got, long want) {
-        checked++;
-        if (got != want) {
-            wrong++;
-            System.out.println("promise " + promise + ": " + what + " answered " + got + ", due is " + want);
-        }
-    }
-
-    /** A fraction, by the calls that tell what is above and what is below its line. */
-    private static void dueParts(int promise, String what, long[] got, long above, long below) {
-        due(promise, what + ", above", got[0], above);
-        due(promise, what + ", below", got[1], below);
-    }
-
-    private static long[] t(BarSteps x, int i) {
-        return new long[] {x.t(i, 0), x.t(i, 1)};
-    }
-
-    private static long[] flow(BarSteps x, int i) {
-        return new long[] {x.flow(i, 0), x.flow(i, 1)};
-    }
-
-    private static long[] then(BarSteps x, int n, int i) {
-        return new long[] {x.then(n, i, 0), x.then(n, i, 1)};
-    }
-
-    private static long[] steady(BarSteps x, int i) {
-        return new long[] {x.steady(i, 0), x.steady(i, 1)};
-    }
-
-    private static long[] steadyFlow(BarSteps x, int i) {
-        return new long[] {x.steadyFlow(i, 0), x.steadyFlow(i, 1)};
-    }
-
-    private static long[] sum(BarSteps x) {
-        return new long[] {x.sum(0), x.sum(1)};
-    }
-
-    /** Cells of four numbers each: KIND, K, C, T. */
-    private static BarSteps bar(int... cells) {
-        BarSteps x = new BarSteps();
-        for (int i = 0; i + 3 < cells.length; i += 4) {
-            x.cell(cells[i], cells[i + 1], cells[i + 2], cells[i + 3]);
-        }
-        return x;
-    }
-
-    private static int feed(BarSteps x, String text) {
-        int size = x.count(2);
-        for (int i = 0; i < text.length(); i++) {
-            size = x.feed(1, text.charAt(i), 0, 0, 0, 0);
-        }
-        return size;
-    }
-
-    private static int text(BarSteps x, String text) {
-        feed(x, text);
-        return x.text();
-    }
-
-    private static void row(BarSteps x, int sheet, int sort, int... numbers) {
-        x.sheet(sheet, sort, numbers.length);
-        for (int i = 0; i < numbers.length; i++) {
-            x.put(sheet, i, numbers[i]);
-        }
-    }
-
+public final class PromisesTest extends ByHand {
     public static void main(String[] args) {
         constantsAndNew();
         cell();
@@ -106,10 +34,7 @@ public final class PromisesTest {
         count();
         sheetAndPut();
         copy();
-        System.out.println("PromisesTest: " + checked + " answers, " + wrong + " not as due");
-        if (wrong != 0) {
-            System.exit(1);
-        }
+        endOf("PromisesTest");
     }
 
     private static void constantsAndNew() {
@@ -450,29 +375,6 @@ public final class PromisesTest {
         dueParts(19, "T at the bound", t(reaching(-bound), 0), -bound, 1);
         due(19, "one more is spent", reaching(bound + 1).count(1), 1);
         due(19, "one less is spent", reaching(-bound - 1).count(1), 1);
-    }
-
-    /**
-     * A bar of one cell, both ends held at 0: T becomes -17 T each step, and a pulse a step is a digit, so
-     * that T ends at just that number. If the last step is spent, its pulse is left.
-     */
-    private static BarSteps reaching(long target) {
-        int[] digits = new int[40];
-        int n = 0;
-        long rest = target;
-        for (; rest < 0 || rest > 999; n++) {
-            digits[n] = (int) Math.floorMod(rest, 17L);
-            rest = -(rest - digits[n]) / 17;
-        }
-        BarSteps x = bar(0, 9, 1, (int) rest);
-        x.rule(0, 1);
-        x.end(0, 0);
-        x.end(1, 0);
-        for (int i = n - 1; i >= 0; i--) {
-            x.pulse(0, 1, digits[i]);
-            x.step(1);
-        }
-        return x;
     }
 
     private static void thenCall() {
