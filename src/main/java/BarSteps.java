@@ -855,8 +855,9 @@ public final class BarSteps {
         /** Adds what comes with the next STEP to heats that stand over a line. */
         void warmNext(long[] heats, long below) {
             for (int i = 0; i < size; i++) {
-                if (due[i] == 1) {
-                    heats[cell[i]] += heat[i] * below;
+                int which = cell[i];
+                if (due[i] == 1 && which >= 0 && which < heats.length) {
+                    heats[which] += heat[i] * below;
                 }
             }
         }

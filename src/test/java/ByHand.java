@@ -78,10 +78,19 @@ abstract class ByHand {
         return x;
     }
 
+    /** Five bytes a call, as an object has 512 calls; what has no room would spoil a test, so it ends it. */
     static int feed(BarSteps x, String text) {
         int size = x.count(2);
-        for (int i = 0; i < text.length(); i++) {
-            size = x.feed(1, text.charAt(i), 0, 0, 0, 0);
+        for (int i = 0; i < text.length(); i += 5) {
+            int n = Math.min(5, text.length() - i);
+            int[] b = new int[5];
+            for (int j = 0; j < n; j++) {
+                b[j] = text.charAt(i + j);
+            }
+            size = x.feed(n, b[0], b[1], b[2], b[3], b[4]);
+            if (size < 0) {
+                throw new IllegalStateException("no room for [" + text + "]");
+            }
         }
         return size;
     }

@@ -384,6 +384,11 @@ public final class EdgesOfCellsTest extends ByHand {
         due(15, "each of them", x.stable(NONE), 0);
         x.rule(0, 6);
         due(15, "each of them", x.stable(NONE), 1);
+        // Only the first one is not
+        x = bar(0, 3, 1, 0, 0, 3, 4, 0, 0, 3, 4, 0);
+        x.rule(0, 2);
+        due(15, "the first alone", x.stable(0) * 100 + x.stable(1) * 10 + x.stable(2), 11);
+        due(15, "each of them", x.stable(NONE), 0);
         // Only the last one is not
         x = bar(0, 3, 4, 0, 0, 3, 4, 0, 0, 3, 1, 0);
         x.rule(0, 2);

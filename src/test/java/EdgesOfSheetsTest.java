@@ -33,6 +33,7 @@ public final class EdgesOfSheetsTest extends ByHand {
         clausesRefused();
         sixtyBytesOfText();
         imageIsReplaced();
+        imageKeepsAll();
         imageKeepsNoSheets();
         loadFourACell();
         sheetsAnew();
@@ -622,6 +623,13 @@ public final class EdgesOfSheetsTest extends ByHand {
             fault("drop;" + word + " 1", 5);
             fault("left " + word, 5);
         }
+        for (String word : new String[] {"cell", "heat", "source", "left", "right", "fine", "pulse", "drop"}) {
+            for (int i = 0; i < word.length(); i++) {
+                char next = (char) (word.charAt(i) + 1);
+                fault(word.substring(0, i) + next + word.substring(i + 1), 0);
+                fault("left 1;" + word.substring(0, i) + next + word.substring(i + 1) + " 1 1 1 1", 7);
+            }
+        }
         fault("Drop", 0);
         fault("dRop", 0);
         fault("droP", 0);
@@ -734,6 +742,48 @@ public final class EdgesOfSheetsTest extends ByHand {
         due(39, "back", x.back(), 1);
         dueParts(39, "T", t(x, 0), ABOVE_AT_THE_BOUND, BOUND);
         due(39, "the line", x.line(), BOUND);
+    }
+
+    /** All that it keeps is as in THE IMAGE, whatever became of it. */
+    private static void imageKeepsAll() {
+        java.util.function.Supplier<BarSteps> make = () -> {
+            BarSteps x = rich();
+            x.image();
+            return x;
+        };
+        due(39, "all is as it was: 1", Probe.isUnchanged(make, x -> {
+            x.set(0, 2, 5);
+            x.set(1, 0, 1);
+            x.set(2, 1, 4);
+            x.set(0, 3, 9);
+            x.heat(1, 1);
+            x.end(0, 7);
+            x.end(1, 8);
+            x.rule(0, 1);
+            x.rule(1, 2);
+            x.hush(2);
+            x.pulse(0, 9, 9);
+            x.step(1);
+            x.cell(0, 1, 1, 1);
+            return x.back();
+        }) ? 1 : 0, 1);
+        due(39, "all is as it was, by fewer: 1", Probe.isUnchanged(make, x -> {
+            while (x.count(0) > 0) {
+                x.drop();
+            }
+            return x.back();
+        }) ? 1 : 0, 1);
+        due(39, "all is as it was, by others: 1", Probe.isUnchanged(make, x -> {
+            while (x.count(0) > 0) {
+                x.drop();
+            }
+            for (int i = 0; i < 8; i++) {
+                x.cell(4, 9, 4, i);
+                x.set(i, 3, i);
+                x.pulse(i, 1, i);
+            }
+            return x.back();
+        }) ? 1 : 0, 1);
     }
 
     /** It keeps CELLS, ENDS, RULES, PULSES; not THE TAPE, not SHEETS, not THE IMAGE itself. */

@@ -29,6 +29,7 @@ public final class EdgesOfStepsTest extends ByHand {
         calmSpent();
         noSteadyHeats();
         oneEndOrOneFin();
+        steadyOfFewer();
         fineAndHoldsDontMatter();
         hottest();
         lay();
@@ -563,6 +564,12 @@ public final class EdgesOfStepsTest extends ByHand {
         }
         x.sheet(0, SHORTS, 0);
         due(32, "shut, no fin", x.buried(0, 0), STATE);
+        x = bar(0, 1, 1, 5);
+        x.sheet(0, SHORTS, 0);
+        due(27, "one cell alone", x.steady(0, 0), NO);
+        due(29, "one cell alone", x.hottest(), NONE);
+        due(30, "one cell alone", x.lay(), STATE);
+        due(32, "one cell alone", x.buried(0, 1), STATE);
     }
 
     /** One end HELD, be it at 0, or one FIN, wherever it is, is enough. */
@@ -593,6 +600,31 @@ public final class EdgesOfStepsTest extends ByHand {
             x.set(finned, 2, 1);
             due(27, "no fin again", x.steady(finned, 0), NO);
         }
+    }
+
+    /** From 8 CELLS down to one, and up again: what was reckoned of more of them does not stay. */
+    private static void steadyOfFewer() {
+        BarSteps x = alike(8, 0, 2, 1, 5);
+        x.end(0, 3);
+        x.end(1, 9);
+        for (int n = 8; n >= 1; n--) {
+            dueOnTheWay(x, n);
+            x.drop();
+        }
+        due(27, "of none", x.steady(0, 0), NO);
+        for (int n = 1; n <= 8; n++) {
+            x.cell(0, 2, 1, 5);
+            dueOnTheWay(x, n);
+        }
+    }
+
+    private static void dueOnTheWay(BarSteps x, int n) {
+        for (int i = 0; i < n; i++) {
+            long above = 3 * (n + 1) + 6 * (i + 1);
+            long shared = java.math.BigInteger.valueOf(above).gcd(java.math.BigInteger.valueOf(n + 1)).longValue();
+            dueParts(27, "on the way from 3 to 9, of " + n, steady(x, i), above / shared, (n + 1) / shared);
+        }
+        due(29, "the last is the hottest", x.hottest(), n - 1);
     }
 
     /** FINE, HOLDS don't matter; PULSES aside; nor do T as they are. */
@@ -685,6 +717,15 @@ public final class EdgesOfStepsTest extends ByHand {
         due(31, "it rests", x.isSteady(), 1);
         due(19, "and stays", x.step(40), 40);
         dueParts(19, "so", t(x, 0), 8990, 9);
+        // What is largest above the line: SIDE 9, both ends held at 999, all sources at 9
+        x.end(1, 999);
+        for (int i = 0; i < 8; i++) {
+            x.set(i, 3, 9);
+        }
+        due(30, "lay of the largest", x.lay(), 1);
+        for (int i = 0; i < 8; i++) {
+            dueParts(30, "999 and (i + 1) (8 - i) / 2", t(x, i), 999 + (i + 1) * (8 - i) / 2, 1);
+        }
     }
 
     /** Whether T are such that, PULSES aside, no STEP changes any: 1, 0 (without CELLS 1). */
