@@ -32,6 +32,8 @@ public final class EdgesOfSheetsTest extends ByHand {
         clausesAtTheirRanges();
         clausesRefused();
         sixtyBytesOfText();
+        lastOfSixtyBytes();
+        shorterTexts();
         imageIsReplaced();
         imageKeepsAll();
         imageKeepsNoSheets();
@@ -709,6 +711,35 @@ public final class EdgesOfSheetsTest extends ByHand {
         due(37, "a fault at the last byte", text(x, full.substring(0, 59) + "?"), -159);
         due(37, "too early behind the last byte", text(x, full.substring(0, 59) + ";"), -160);
         due(37, "three cells still", x.count(0), 3);
+    }
+
+    /** A full tape that ends at each kind of TOKEN: nothing is read behind its 60 bytes. */
+    private static void lastOfSixtyBytes() {
+        String[] ends = {"left", "left ", "left 5", "left 5 ", "left 555", "left -", "left -5", "left 5555", "drop",
+            "drop;", "drop ", "cell 1 1 1", "pulse 1 1", "dro", "?", ";"};
+        int[] want = {-160, -160, 1, 1, 1, -159, 0, -156, 0, -160, 0, -160, -160, -157, -159, -159};
+        for (int i = 0; i < ends.length; i++) {
+            BarSteps x = new BarSteps();
+            due(37, "sixty bytes", feed(x, " ".repeat(60 - ends[i].length()) + ends[i]), 60);
+            due(37, "sixty bytes that end with [" + ends[i] + "]", x.text(), want[i]);
+        }
+    }
+
+    /** THE TAPE is empty then: nothing of a longer text is read behind the end of a shorter one. */
+    private static void shorterTexts() {
+        BarSteps x = new BarSteps();
+        text(x, "left 555;right 5");
+        due(37, "left 5, not 555", text(x, "left 5"), 1);
+        due(37, "left", x.end(0, -1), 5);
+        text(x, "left -55");
+        due(37, "too early, ahead of -55", text(x, "left"), -104);
+        text(x, "left -55");
+        due(37, "too early, ahead of -55", text(x, "left "), -105);
+        text(x, "left -55");
+        due(37, "a - alone, ahead of 55", text(x, "left -"), -105);
+        text(x, "drop;drop");
+        due(37, "too early, ahead of drop", text(x, "drop;"), -105);
+        due(37, "a part of a word", text(x, "dro"), -100);
     }
 
     /** AN IMAGE: as they are then; a later one takes its place. */
