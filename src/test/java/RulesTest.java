@@ -3,15 +3,11 @@ import java.lang.reflect.Constructor;
 import java.lang.reflect.Field;
 import java.lang.reflect.Method;
 import java.lang.reflect.Modifier;
-import java.nio.file.Files;
-import java.nio.file.Path;
 import java.util.Arrays;
 import java.util.Set;
 import java.util.TreeSet;
-import java.util.regex.Matcher;
-import java.util.regex.Pattern;
 
-/** What of LANGUAGE.md can be looked at from outside: the face, words that are ruled out, the room. */
+/** What of LANGUAGE.md can be looked at from outside: the face, names, the room. */
 public final class RulesTest {
     private static final String FACE = """
         int cell(int int int int), int drop(), int set(int int int), int heat(int int), int of(int int),
@@ -33,10 +29,9 @@ public final class RulesTest {
         }
     }
 
-    public static void main(String[] args) throws Exception {
+    public static void main(String[] args) {
         face();
         names();
-        source();
         room();
         System.out.println("RulesTest: " + (wrong == 0 ? "all hold" : wrong + " do not hold"));
         if (wrong != 0) {
@@ -99,29 +94,6 @@ public final class RulesTest {
                 hold("a name of the face is not borne by " + m, !faces.contains(m.getName()));
                 hold(m + " takes seven at most", m.getParameterCount() <= 7);
             }
-        }
-    }
-
-    private static void source() throws Exception {
-        String text = Files.readString(Path.of("src/main/java/BarSteps.java"));
-        String code = text.replaceAll("(?s)/\\*.*?\\*/", "").replaceAll("//[^\n]*", "");
-        String[] words = {"throw", "throws", "try", "catch", "synchronized", "assert", "import (?!java\\.util\\.)", "package", "->", "::",
-            "Exact\\(", "System\\.(?!arraycopy)", "protected", "toString", "hashCode", "Thread", "new [a-zA-Z]+\\(\\) *\\{"};
-        for (String word : words) {
-            String bounded = Character.isLetter(word.charAt(0)) ? "\\b" + word : word;
-            Matcher m = Pattern.compile(bounded + (word.matches("[a-z]+") ? "\\b" : "")).matcher(code);
-            hold("the program does without " + word, !m.find());
-        }
-        for (char c : text.toCharArray()) {
-            hold("the program's signs are plain ones", c == '\n' || c >= 32 && c < 127);
-        }
-        int length = 0;
-        String[] lines = text.split("\n");
-        for (String line : lines) {
-            // Methods stand at one depth or two, and their last lines are the braces there.
-            boolean starts = line.matches(" {4}( {4})?[a-z].*\\) \\{");
-            length = starts ? 0 : length + 1;
-            hold("methods stay short: " + line, !line.matches(" {4}( {4})?\\}") || length < 60 || line.length() == 5);
         }
     }
 
